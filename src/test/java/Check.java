@@ -1,0 +1,67 @@
+import java.nio.charset.StandardCharsets;
+
+/** Compares answers with what is due, and tells at the end whether all were. */
+final class Check {
+    private final String name;
+    private int wrong;
+    private int asked;
+
+    Check(String name) {
+        this.name = name;
+    }
+
+    void due(String call, long got, long want) {
+        asked++;
+        if (got != want) {
+            wrong++;
+            System.out.println(name + ": " + call + " answered " + got + ", due is " + want);
+        }
+    }
+
+    void end() {
+        System.out.println(name + ": " + asked + " answers, " + wrong + " wrong");
+        if (wrong != 0) {
+            System.exit(1);
+        }
+    }
+
+    /** Feeds a text; the last answer of feed. */
+    static int feed(FrescoWall wall, String text) {
+        byte[] bytes = text.getBytes(StandardCharsets.ISO_8859_1);
+        int answer = 0;
+        for (int at = 0; at < bytes.length; at += 8) {
+            int n = Math.min(8, bytes.length - at);
+            long w = 0;
+            for (int k = 0; k < n; k++) {
+                w = w << 8 | bytes[at + k] & 255;
+            }
+            answer = wall.feed(w, n);
+        }
+        return answer;
+    }
+
+    static int bit(FrescoWall wall, String text, int thick, int straw, int plaster) {
+        feed(wall, text);
+        return wall.bit(thick, straw, plaster);
+    }
+
+    /** A rectangle with its lower left corner at (0, 0); colours of its lower, right, upper and left edges. */
+    static String box(int width, int height, String colours) {
+        return "0,0:" + colours.charAt(0) + ";" + width + ",0:" + colours.charAt(1)
+            + ";" + width + "," + height + ":" + colours.charAt(2) + ";0," + height + ":" + colours.charAt(3);
+    }
+
+    static int ask(FrescoWall wall, String text) {
+        feed(wall, text);
+        return wall.ask();
+    }
+
+    static int photograph(FrescoWall wall, String text, int x, int y, int doubt) {
+        feed(wall, text);
+        return wall.photograph(x, y, doubt);
+    }
+
+    private Check() {
+        this("");
+    }
+}
