@@ -748,6 +748,22 @@ public final class FrescoWall {
             return sum;
         }
 
+        int least(int[] coordinates) {
+            int found = coordinates[0];
+            for (int k = 1; k < corners; k++) {
+                found = Math.min(found, coordinates[k]);
+            }
+            return found;
+        }
+
+        int most(int[] coordinates) {
+            int found = coordinates[0];
+            for (int k = 1; k < corners; k++) {
+                found = Math.max(found, coordinates[k]);
+            }
+            return found;
+        }
+
         private boolean meetWrongly(int k, int m) {
             if (next(k) == m) {
                 return foldsBack(k, m);
@@ -861,8 +877,10 @@ public final class FrescoWall {
             spotColour = sketch.spotColour.clone();
             twiceArea = sketch.twiceArea();
             int found = 0;
-            for (int x = -MIDDLE; x < MIDDLE; x++) {
-                for (int y = -MIDDLE; y < MIDDLE; y++) {
+            int endX = sketch.most(sketch.x);
+            int endY = sketch.most(sketch.y);
+            for (int x = sketch.least(sketch.x); x < endX; x++) {
+                for (int y = sketch.least(sketch.y); y < endY; y++) {
                     if (sketch.holdsCell(x, y)) {
                         found++;
                         markCell(x, y);

@@ -60,8 +60,4 @@ final class Check {
         feed(wall, text);
         return wall.photograph(x, y, doubt);
     }
-
-    private Check() {
-        this("");
-    }
 }
