@@ -115,6 +115,12 @@ public final class BitsTest {
         ring("0,0:1;3,0:1;3,3:1;0,0:1;0,3:1", -5);
         ring("-20,-20:1;20,-20:1;20,20:1;-20,20:1", 0);
         ring("0,0:1;2,0:1;2,2:1;1,0:1;0,2:1", -5);
+        // a corner that touches an edge which is no neighbour: left, lower, right, upper
+        ring("0,0:1;4,0:1;0,2:1;4,4:1;0,4:1", -5);
+        ring("4,0:1;4,4:1;2,0:1;0,4:1;0,0:1", -5);
+        ring("4,4:1;0,4:1;4,2:1;0,0:1;4,0:1", -5);
+        ring("0,4:1;0,0:1;2,4:1;4,0:1;4,4:1", -5);
+        ring("0,0:1;4,0:1;1,2:1;4,4:1;0,4:1", 0);
         ring("0,0:1;1,0:1;2,0:1;3,0:1;3,1:1;2,1:1;1,1:1;0,1:9", 0);
     }
 
@@ -201,6 +207,12 @@ public final class BitsTest {
         CHECK.due("overlap", w.overlap(1, 0, 0, -19, 0), 1);
         CHECK.due("overlap", w.overlap(1, 0, 0, 21, 0), 1);
         CHECK.due("overlap", w.overlap(1, 0, 0, 500, -500), 0);
+        for (int far : new int[] {40, 41, 63, 64, 65, 128, 500}) {
+            CHECK.due("far", w.overlap(0, 1, 0, far, 0), 0);
+            CHECK.due("far", w.overlap(0, 1, 0, -far, 0), 0);
+            CHECK.due("far", w.overlap(0, 1, 0, 0, far), 0);
+            CHECK.due("far", w.overlap(0, 1, 0, 0, -far), 0);
+        }
         CHECK.due("overlap", w.overlap(1, 0, 0, 501, 0), -2);
         CHECK.due("overlap", w.overlap(1, 0, 0, 0, -501), -2);
         CHECK.due("overlap", w.overlap(1, 0, 4, 0, 0), -2);

@@ -10,6 +10,7 @@ public final class PhotographTest {
         bestPlacings();
         arrangeTwo();
         arrangeThree();
+        arrangeEdges();
         arrangeRefused();
         CHECK.end();
     }
@@ -76,6 +77,13 @@ public final class PhotographTest {
         CHECK.due("too far right", w.agree(0, 0, 13, 20), 0);
         CHECK.due("too far left", w.agree(0, 0, 7, 20), 0);
         CHECK.due("left", w.agree(0, 0, 8, 20), 2);
+        Check.photograph(w, "2222222222222222/................", 0, 0, 3);
+        for (int x = -6; x < 24; x++) {
+            // the second spot, at x + 2
+            CHECK.due("wide " + x, w.agree(0, 0, x, 1), x + 2 >= -3 && x + 2 < 19 ? 1 : 0);
+            CHECK.due("low " + x, w.agree(0, 0, 0, x), x >= -2 && x <= 4 ? 1 : 0);
+        }
+        Check.photograph(w, "1.2", 10, 20, 2);
         // refused ones leave it as it is
         Check.photograph(w, "1.2/", 10, 20, 0);
         CHECK.due("the old one", w.agree(0, 0, 8, 20), 2);
@@ -174,6 +182,34 @@ public final class PhotographTest {
         CHECK.due("second", u.arranged(1, 1), 1);
         CHECK.due("second", u.arranged(1, 2), 1);
         CHECK.due("three", u.arrange(7), 81);
+    }
+
+    private static void arrangeEdges() {
+        FrescoWall w = new FrescoWall();
+        Check.bit(w, Check.box(2, 1, "0000"), 5, -1, 0);
+        Check.bit(w, Check.box(2, 3, "1111"), 50, -1, 0);
+        CHECK.due("worth nothing", w.arrange(3), 0);
+        CHECK.due("told all the same", w.arranged(1, 0), 0);
+        CHECK.due("told all the same", w.arranged(1, 2), -3);
+        // two pairs of edges in one placing, the first that is found
+        FrescoWall v = new FrescoWall();
+        Check.bit(v, "0,0:0;1,0:0;2,0:0;2,3:0;0,3:0", 5, -1, 0);
+        Check.bit(v, "1,0:0;2,0:0;2,4:0;0,4:0;0,0:0", 5, -1, 0);
+        CHECK.due("two pairs", v.arrange(3), 54);
+        CHECK.due("t", v.arranged(1, 0), 2);
+        CHECK.due("x", v.arranged(1, 1), 2);
+        CHECK.due("y", v.arranged(1, 2), 0);
+        // both others would be best at one place
+        FrescoWall u = new FrescoWall();
+        Check.bit(u, Check.box(2, 1, "5000"), 5, -1, 0);
+        Check.bit(u, Check.box(2, 3, "5111"), 5, -1, 0);
+        Check.bit(u, Check.box(2, 3, "5222"), 5, -1, 0);
+        CHECK.due("one of them", u.arrange(7), 36);
+        CHECK.due("tolerance", u.tolerance(1), 0);
+        CHECK.due("one of them", u.arrange(7), 36);
+        CHECK.due("tolerance", u.tolerance(2), 1);
+        // the small one lies on one of the others then
+        CHECK.due("both", u.arrange(7), 54);
     }
 
     private static void arrangeRefused() {
