@@ -1754,7 +1754,8 @@ public final class FrescoWall {
             open();
             boolean wanted = true;
             int at = 0;
-            while (at < tape.size) {
+            // Each round goes on by a byte at least.
+            for (int round = 0; round < Tape.MOST && at < tape.size; round++) {
                 int sign = tape.peek(at);
                 int end = wanted ? readFactor(tape, at, sign) : readBehind(at, sign);
                 if (end <= at) {

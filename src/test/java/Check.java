@@ -51,6 +51,15 @@ final class Check {
             + ";" + width + "," + height + ":" + colours.charAt(2) + ";0," + height + ":" + colours.charAt(3);
     }
 
+    /** Unit squares that fit one another on all sides. */
+    static FrescoWall squares(int n) {
+        FrescoWall wall = new FrescoWall();
+        for (int k = 0; k < n; k++) {
+            bit(wall, box(1, 1, "0000"), 5, -1, 0);
+        }
+        return wall;
+    }
+
     static int ask(FrescoWall wall, String text) {
         feed(wall, text);
         return wall.ask();

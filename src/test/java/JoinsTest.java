@@ -16,15 +16,6 @@ public final class JoinsTest {
         CHECK.end();
     }
 
-    /** Unit squares that fit one another on all sides. */
-    private static FrescoWall squares(int n) {
-        FrescoWall w = new FrescoWall();
-        for (int k = 0; k < n; k++) {
-            Check.bit(w, Check.box(1, 1, "0000"), 5, -1, 0);
-        }
-        return w;
-    }
-
     private static void dueClash(FrescoWall w, int kind, int first, int second, int... joins) {
         CHECK.due("clash kind", w.clash(0), kind);
         CHECK.due("clash size", w.clash(1), joins.length);
@@ -42,7 +33,7 @@ public final class JoinsTest {
     }
 
     private static void joining() {
-        FrescoWall w = squares(3);
+        FrescoWall w = Check.squares(3);
         Check.bit(w, Check.box(2, 2, "0000"), 5, -1, 0);
         CHECK.due("join", w.join(0, 1, 1, 3), 0);
         CHECK.due("taken", w.join(0, 1, 2, 3), -3);
@@ -69,7 +60,7 @@ public final class JoinsTest {
     }
 
     private static void groups() {
-        FrescoWall w = squares(5);
+        FrescoWall w = Check.squares(5);
         w.join(3, 1, 1, 3);
         w.join(1, 1, 4, 3);
         CHECK.due("least", w.group(4, 0), 1);
@@ -89,7 +80,7 @@ public final class JoinsTest {
     }
 
     private static void clashInOneGroup() {
-        FrescoWall w = squares(3);
+        FrescoWall w = Check.squares(3);
         w.join(0, 1, 1, 3);
         w.join(1, 1, 2, 3);
         // a ring of two that isn't one
@@ -98,7 +89,7 @@ public final class JoinsTest {
         CHECK.due("otherwise, the other way", w.join(0, 3, 2, 1), -11);
         dueClash(w, 1, 0, 2, 0, 1);
         // a square of four closes
-        FrescoWall v = squares(4);
+        FrescoWall v = Check.squares(4);
         v.join(0, 1, 1, 3);
         v.join(1, 2, 2, 0);
         v.join(2, 3, 3, 1);
@@ -108,7 +99,7 @@ public final class JoinsTest {
     }
 
     private static void shortestWays() {
-        FrescoWall v = squares(4);
+        FrescoWall v = Check.squares(4);
         v.join(0, 1, 1, 3);
         v.join(3, 0, 0, 2);
         v.join(1, 2, 2, 0);
@@ -129,18 +120,18 @@ public final class JoinsTest {
 
     private static void clashOfOverlap() {
         // two rows of two, that are laid upon one another
-        FrescoWall w = squares(4);
+        FrescoWall w = Check.squares(4);
         w.join(1, 1, 0, 3);
         w.join(3, 1, 2, 3);
         // 0 lies right of 1, 2 right of 3: 3's right neighbour is on 0 if 3 sits on 1's place
         CHECK.due("overlap", w.join(1, 0, 3, 0), 2);
-        FrescoWall v = squares(5);
+        FrescoWall v = Check.squares(5);
         v.join(0, 1, 1, 3);
         v.join(2, 1, 3, 3);
         v.join(3, 1, 4, 3);
         // 4's upper side against 0's lower side turned: 4 under 0, 3 and 2 to its right or left
         CHECK.due("free", v.join(0, 0, 4, 2), 3);
-        FrescoWall u = squares(6);
+        FrescoWall u = Check.squares(6);
         // a hook: 0 right of it 1, above 1 is 2; and 5 with 4 above it
         u.join(0, 1, 1, 3);
         u.join(1, 2, 2, 0);
@@ -148,7 +139,7 @@ public final class JoinsTest {
         u.join(4, 1, 3, 3);
         // 5 on 0's upper side: 4 is above it, 3 right of 4; 2 is at (1,1), 5 at (0,1): free
         CHECK.due("free", u.join(0, 2, 5, 0), 4);
-        FrescoWall t = squares(6);
+        FrescoWall t = Check.squares(6);
         t.join(0, 1, 1, 3);
         t.join(1, 2, 2, 0);
         t.join(5, 1, 4, 3);
@@ -163,7 +154,7 @@ public final class JoinsTest {
     }
 
     private static void clashOnTheWall() {
-        FrescoWall w = squares(5);
+        FrescoWall w = Check.squares(5);
         w.join(1, 1, 0, 3);
         w.join(3, 1, 2, 3);
         w.put(0, 0, 10, 10);
@@ -186,7 +177,7 @@ public final class JoinsTest {
     }
 
     private static void clashBesideTheWall() {
-        FrescoWall w = squares(6);
+        FrescoWall w = Check.squares(6);
         w.join(1, 1, 0, 3);
         w.put(5, 0, 12, 10);
         w.put(3, 0, 11, 10);
@@ -211,7 +202,7 @@ public final class JoinsTest {
     }
 
     private static void full() {
-        FrescoWall w = squares(4);
+        FrescoWall w = Check.squares(4);
         for (int k = 0; k < 59; k++) {
             CHECK.due("join", w.join(0, 1, 1, 3), k);
             CHECK.due("undo", w.undo(k), 2);
@@ -248,7 +239,7 @@ public final class JoinsTest {
     }
 
     private static void undoing() {
-        FrescoWall w = squares(4);
+        FrescoWall w = Check.squares(4);
         w.join(0, 1, 1, 3);
         w.join(1, 1, 2, 3);
         w.join(2, 1, 3, 3);

@@ -16,14 +16,6 @@ public final class WallTest {
         CHECK.end();
     }
 
-    private static FrescoWall squares(int n) {
-        FrescoWall w = new FrescoWall();
-        for (int k = 0; k < n; k++) {
-            Check.bit(w, Check.box(1, 1, "0000"), 5, -1, 0);
-        }
-        return w;
-    }
-
     private static void duePlaced(FrescoWall w, int bit, int t, int x, int y, int by) {
         CHECK.due("t of " + bit, w.placed(bit, 0), t);
         CHECK.due("x of " + bit, w.placed(bit, 1), x);
@@ -32,7 +24,7 @@ public final class WallTest {
     }
 
     private static void words() {
-        FrescoWall w = squares(3);
+        FrescoWall w = Check.squares(3);
         CHECK.due("word", w.word(3, 0, 0, 0), -1);
         CHECK.due("word", w.word(-1, 0, 0, 0), -1);
         CHECK.due("word", w.word(3, 9, 0, 0), -1);
@@ -63,7 +55,7 @@ public final class WallTest {
     }
 
     private static void wordsThatDiffer() {
-        FrescoWall w = squares(4);
+        FrescoWall w = Check.squares(4);
         w.join(0, 1, 1, 3);
         w.join(1, 1, 2, 3);
         w.word(2, 0, 12, 10);
@@ -92,7 +84,7 @@ public final class WallTest {
     }
 
     private static void puts() {
-        FrescoWall w = squares(3);
+        FrescoWall w = Check.squares(3);
         w.join(0, 1, 1, 3);
         CHECK.due("put", w.put(3, 0, 0, 0), -1);
         CHECK.due("put", w.put(0, 4, 0, 0), -2);
@@ -115,7 +107,7 @@ public final class WallTest {
     }
 
     private static void overlaps() {
-        FrescoWall w = squares(5);
+        FrescoWall w = Check.squares(5);
         w.join(0, 1, 1, 3);
         w.join(3, 1, 4, 3);
         w.put(3, 0, 5, 5);
@@ -145,7 +137,7 @@ public final class WallTest {
     }
 
     private static void lifting() {
-        FrescoWall w = squares(3);
+        FrescoWall w = Check.squares(3);
         w.join(0, 1, 1, 3);
         CHECK.due("off", w.lift(0), -3);
         CHECK.due("no bit", w.lift(3), -1);
@@ -167,7 +159,7 @@ public final class WallTest {
     }
 
     private static void unsaying() {
-        FrescoWall w = squares(2);
+        FrescoWall w = Check.squares(2);
         w.join(0, 1, 1, 3);
         CHECK.due("none", w.unsay(0), -3);
         CHECK.due("no bit", w.unsay(2), -1);
