@@ -421,10 +421,11 @@ public final class FrescoWall {
     }
 
     public int box(int bit, int day, int entries) {
-        if (!isBit(bit) || entries > boxes.count) {
+        // Fewer entries than none are no such entries, as more than there are.
+        if (!isBit(bit) || entries < 0 || entries > boxes.count) {
             return NONE;
         }
-        if (entries < 0 || !isDay(day)) {
+        if (!isDay(day)) {
             return BAD;
         }
         int found = boxes.boxOf(bit, day, entries);

@@ -352,7 +352,7 @@ public final class AgainstPlainTest {
 
     private boolean boxing() throws Exception {
         int bit = aBit();
-        int day = rarely(20) ? any(-2, 1002) : any(0, 12);
+        int day = aDay();
         int box = rarely(20) ? any(-3, 11) : any(-1, 3);
         if (rarely(25)) {
             return same("share", rarely(9) ? any(-3, 7) : any(-1, 5));
@@ -361,7 +361,21 @@ public final class AgainstPlainTest {
             return same("skill", rarely(20) ? any(-1, 6) : any(0, 5), rarely(9) ? any(-1, 10) : any(0, 1), what(9));
         }
         return same("enter", bit, box, day)
-            && same("box", bit, any(0, 12), rarely(20) ? any(-1, 105) : any(0, real.count(6)));
+            && same("box", bit, aDay(), someEntries());
+    }
+
+    private int aDay() {
+        if (rarely(20)) {
+            return rarely(2) ? any(-2, 0) : any(998, 1001);
+        }
+        return any(0, 12);
+    }
+
+    private int someEntries() {
+        if (rarely(12)) {
+            return rarely(2) ? any(-3, -1) : real.count(6) + any(1, 3);
+        }
+        return any(0, real.count(6));
     }
 
     private boolean settings() throws Exception {

@@ -51,7 +51,13 @@ public final class BoxesTest {
         CHECK.due("too many, no day", w.box(1, 1000, 6), -1);
         CHECK.due("no day", w.box(1, 1000, 5), -2);
         CHECK.due("no day", w.box(1, -1, 5), -2);
-        CHECK.due("not as told", w.box(1, 0, -1), -2);
+        CHECK.due("no such entry", w.box(1, 0, -1), -1);
+        CHECK.due("no such entry", w.box(1, 999, Integer.MIN_VALUE), -1);
+        CHECK.due("no such entry, no day", w.box(1, -1, -1), -1);
+        CHECK.due("no such entry, no day", w.box(1, 1000, -5), -1);
+        CHECK.due("no bit, no such entry", w.box(-1, 0, -1), -1);
+        CHECK.due("no entries, no day", w.box(1, -1, 0), -2);
+        CHECK.due("no entries", w.box(1, 0, 0), -5);
         CHECK.due("no bit", w.box(2, -1, 5), -1);
     }
 

@@ -1126,10 +1126,10 @@ public final class PlainWall {
     }
 
     public int box(int bit, int day, int known) {
-        if (!is(bit) || known > entries.size()) {
+        if (!is(bit) || known < 0 || known > entries.size()) {
             return NONE;
         }
-        if (day < 0 || day > 999 || known < 0) {
+        if (day < 0 || day > 999) {
             return BAD;
         }
         for (int d = day; d >= 0; d--) {
