@@ -3,6 +3,8 @@ import java.nio.charset.StandardCharsets;
 /** Compares answers with what is due, and tells at the end whether all were. */
 final class Check {
     private final String name;
+    private String sentence = "";
+    private int sentences;
     private int wrong;
     private int asked;
 
@@ -10,16 +12,23 @@ final class Check {
         this.name = name;
     }
 
+    /** The document's words that the answers from here on are about. */
+    void of(String words) {
+        sentence = " (" + words + ")";
+        sentences++;
+    }
+
     void due(String call, long got, long want) {
         asked++;
         if (got != want) {
             wrong++;
-            System.out.println(name + ": " + call + " answered " + got + ", due is " + want);
+            System.out.println(name + sentence + ": " + call + " answered " + got + ", due is " + want);
         }
     }
 
     void end() {
-        System.out.println(name + ": " + asked + " answers, " + wrong + " wrong");
+        String about = sentences == 0 ? "" : " about " + sentences + " sentences";
+        System.out.println(name + ": " + asked + " answers" + about + ", " + wrong + " wrong");
         if (wrong != 0) {
             System.exit(1);
         }
