@@ -8,6 +8,7 @@ import java.util.TreeMap;
 
 /** Random runs of calls on FrescoWall and on PlainWall; the seeds are fixed, so each time they are the same. */
 public final class AgainstPlainTest {
+    private static final int MOST_CALLS = 512;
     private static final Map<String, Method> REAL = methods(FrescoWall.class);
     private static final Map<String, Method> PLAIN = methods(PlainWall.class);
     private final Random random;
@@ -59,7 +60,7 @@ public final class AgainstPlainTest {
     }
 
     private boolean go(Map<String, Integer> seen) throws Exception {
-        while (calls < 500) {
+        while (calls < MOST_CALLS) {
             int before = log.size();
             if (!step()) {
                 return false;
@@ -75,8 +76,11 @@ public final class AgainstPlainTest {
         return true;
     }
 
-    /** Calls both; whether they agree. */
+    /** Calls both; whether they agree. Behind its 512th call an object is not called any more. */
     private boolean same(String name, Object... args) throws Exception {
+        if (calls == MOST_CALLS) {
+            return true;
+        }
         calls++;
         int due = (Integer) PLAIN.get(name).invoke(plain, args);
         int got = (Integer) REAL.get(name).invoke(real, args);
@@ -96,7 +100,7 @@ public final class AgainstPlainTest {
     }
 
     private int aBit() {
-        return rarely(60) ? any(-1, 31) : any(0, Math.max(0, real.count(0) - 1));
+        return rarely(60) ? any(-1, 31) : any(0, Math.max(0, plain.count(0) - 1));
     }
 
     private int anotherBit(int bit) {
@@ -105,7 +109,7 @@ public final class AgainstPlainTest {
     }
 
     private int anEdge(int bit) {
-        return rarely(60) ? any(-1, 9) : any(0, Math.max(0, real.about(bit, 0) - 1));
+        return rarely(60) ? any(-1, 9) : any(0, Math.max(0, plain.about(bit, 0) - 1));
     }
 
     private int what(int most) {
@@ -121,7 +125,7 @@ public final class AgainstPlainTest {
     }
 
     private boolean step() throws Exception {
-        if (real.count(0) < 2 || (real.count(0) < mostBits && rarely(6))) {
+        if (plain.count(0) < 2 || (plain.count(0) < mostBits && rarely(6))) {
             return newBit();
         }
         switch (any(0, 13)) {
@@ -229,7 +233,7 @@ public final class AgainstPlainTest {
         int a = aBit(), b = anotherBit(a);
         int ea = anEdge(a), eb = anEdge(b);
         int i = what(3);
-        int fit = real.fit(a, ea, i);
+        int fit = plain.fit(a, ea, i);
         if (fit >= 0) {
             b = fit / 10;
             eb = fit % 10;
@@ -240,17 +244,17 @@ public final class AgainstPlainTest {
 
     private boolean joining() throws Exception {
         if (rarely(4)) {
-            int join = any(rarely(20) ? -1 : 0, Math.max(0, real.count(8) - (rarely(9) ? 0 : 1)));
+            int join = any(rarely(20) ? -1 : 0, Math.max(0, plain.count(8) - (rarely(9) ? 0 : 1)));
             return same("undo", join) && same("joined", join, 0) && looking();
         }
         int a = aBit();
         int ea = anEdge(a);
-        int n = real.fits(a, ea);
-        int fit = n > 0 ? real.fit(a, ea, rarely(2) ? 0 : any(0, n - 1)) : -1;
+        int n = plain.fits(a, ea);
+        int fit = n > 0 ? plain.fit(a, ea, rarely(2) ? 0 : any(0, n - 1)) : -1;
         int b = fit >= 0 ? fit / 10 : anotherBit(a);
         int eb = fit >= 0 ? fit % 10 : anEdge(b);
         return same("join", a, ea, b, eb) && tellClash() && same("group", b, what(2))
-            && same("joined", any(0, Math.max(0, real.count(8) - 1)), what(4));
+            && same("joined", any(0, Math.max(0, plain.count(8) - 1)), what(4));
     }
 
     private boolean tellClash() throws Exception {
@@ -264,20 +268,20 @@ public final class AgainstPlainTest {
         int t = aTurn(), x = aPlace(), y = aPlace();
         int other = aBit();
         int edge = anEdge(other);
-        int fit = real.fit(other, edge, what(2));
-        if (!rarely(4) && real.placed(other, 0) >= 0 && fit >= 0) {
+        int fit = plain.fit(other, edge, what(2));
+        if (!rarely(4) && plain.placed(other, 0) >= 0 && fit >= 0) {
             bit = fit / 10;
-            PlainWall.Put how = new PlainWall.Put(real.turned(other, edge, bit, fit % 10, 0),
-                real.turned(other, edge, bit, fit % 10, 1), real.turned(other, edge, bit, fit % 10, 2));
-            PlainWall.Put at = new PlainWall.Put(real.placed(other, 0), real.placed(other, 1), real.placed(other, 2));
+            PlainWall.Put how = new PlainWall.Put(plain.turned(other, edge, bit, fit % 10, 0),
+                plain.turned(other, edge, bit, fit % 10, 1), plain.turned(other, edge, bit, fit % 10, 2));
+            PlainWall.Put at = new PlainWall.Put(plain.placed(other, 0), plain.placed(other, 1), plain.placed(other, 2));
             PlainWall.Put put = at.times(how);
             t = put.t();
             x = put.x();
             y = put.y();
-        } else if (rarely(3) && real.placed(bit, 0) >= 0) {
-            t = real.placed(bit, 0);
-            x = real.placed(bit, 1);
-            y = real.placed(bit, 2);
+        } else if (rarely(3) && plain.placed(bit, 0) >= 0) {
+            t = plain.placed(bit, 0);
+            x = plain.placed(bit, 1);
+            y = plain.placed(bit, 2);
         }
         switch (any(0, 11)) {
             case 0: case 1: case 2: return same("word", bit, t, x, y) && tellClash() && same("placed", other, what(3));
@@ -290,8 +294,8 @@ public final class AgainstPlainTest {
     }
 
     private boolean provedBits() throws Exception {
-        for (int bit = 0; bit < real.count(0); bit++) {
-            if (real.proof(bit) > 0 && !(same("proof", bit) && same("reason", bit, 0) && same("reason", bit, 1)
+        for (int bit = 0; bit < plain.count(0); bit++) {
+            if (plain.proof(bit) > 0 && !(same("proof", bit) && same("reason", bit, 0) && same("reason", bit, 1)
                 && same("reason", bit, 2))) {
                 return false;
             }
@@ -373,9 +377,9 @@ public final class AgainstPlainTest {
 
     private int someEntries() {
         if (rarely(12)) {
-            return rarely(2) ? any(-3, -1) : real.count(6) + any(1, 3);
+            return rarely(2) ? any(-3, -1) : plain.count(6) + any(1, 3);
         }
-        return any(0, real.count(6));
+        return any(0, plain.count(6));
     }
 
     private boolean settings() throws Exception {

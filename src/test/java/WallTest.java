@@ -194,7 +194,7 @@ public final class WallTest {
         CHECK.due("at", w.at(10, 11), 0);
         Check.bit(w, "-20,-20:1;20,-20:2;20,20:3;-20,20:4", 5, 0, 0);
         w.put(2, 0, 100, 100);
-        for (int x = 0; x < 300; x++) {
+        for (int x = 0; x < 200; x++) {
             boolean on = x >= 80 && x < 120;
             CHECK.due("at " + x, w.at(x, 80), on ? 2 : -1);
             CHECK.due("at " + x, w.at(119, x), on ? 2 : -1);
