@@ -1,3 +1,6 @@
+import java.util.ArrayList;
+import java.util.List;
+
 /** Part 1 of the document and promises 1 to 7, sentence by sentence: just inside each bound and just outside it. */
 public final class BoundBitsTest {
     private static final Check CHECK = new Check("BoundBitsTest");
@@ -44,7 +47,9 @@ public final class BoundBitsTest {
         overlapTurns();
         overlapPlaces();
         overlapCounts();
+        overlapFarAway();
         tolerances();
+        fiveHundredAndTwelveCalls();
         CHECK.end();
     }
 
@@ -57,6 +62,36 @@ public final class BoundBitsTest {
 
     private static void dueFault(String text, int place) {
         dueBit(text, -10 - place);
+    }
+
+    /** A ring is one from whichever corner it begins, and however it is turned. */
+    private static void dueRing(String text, int answer) {
+        for (String same : asWell(text)) {
+            dueBit(same, answer);
+        }
+    }
+
+    private static List<String> asWell(String text) {
+        String[] corners = text.split(";");
+        List<String> found = new ArrayList<>();
+        for (int t = 0; t < 4; t++) {
+            for (int first = 0; first < corners.length; first++) {
+                StringBuilder turned = new StringBuilder();
+                for (int k = 0; k < corners.length; k++) {
+                    String[] parts = corners[(first + k) % corners.length].split("[,:]");
+                    int x = Integer.parseInt(parts[0]);
+                    int y = Integer.parseInt(parts[1]);
+                    for (int quarter = 0; quarter < t; quarter++) {
+                        int before = x;
+                        x = -y;
+                        y = before;
+                    }
+                    turned.append(k == 0 ? "" : ";").append(x).append(',').append(y).append(':').append(parts[2]);
+                }
+                found.add(turned.toString());
+            }
+        }
+        return found;
     }
 
     private static void newObject() {
@@ -336,77 +371,86 @@ public final class BoundBitsTest {
     private static void edgesOfNoLength() {
         CHECK.of("1: RING: no EDGE of no length");
         String[] corners = {"0,0:1", "2,0:1", "2,2:1", "0,2:1"};
-        dueBit(String.join(";", corners), 0);
+        dueRing(String.join(";", corners), 0);
         for (int k = 0; k < 4; k++) {
             StringBuilder text = new StringBuilder();
             for (int m = 0; m < 4; m++) {
                 text.append(m == 0 ? "" : ";").append(corners[m]).append(m == k ? ";" + corners[m] : "");
             }
-            dueBit(text.toString(), -5);
+            dueRing(text.toString(), -5);
         }
-        dueBit("0,0:1;2,0:1;2,2:1;0,2:1;0,0:1", -5);
-        dueBit("0,0:1;0,0:1;0,0:1", -5);
+        dueRing("0,0:1;2,0:1;2,2:1;0,2:1;0,0:1", -5);
+        dueRing("0,0:1;0,0:1;0,0:1", -5);
         // one long is long enough
-        dueBit("0,0:1;1,0:1;0,1:1", 0);
+        dueRing("0,0:1;1,0:1;0,1:1", 0);
     }
 
     private static void edgesInCommon() {
         CHECK.of("1: RING: no two EDGES have a point in common");
         // a notch that stops above the lower edge, on it, below it
-        dueBit("0,0:1;4,0:1;4,4:1;2,1:1;0,4:1", 0);
-        dueBit("0,0:1;4,0:1;4,4:1;2,0:1;0,4:1", -5);
-        dueBit("0,0:1;4,0:1;4,4:1;2,-1:1;0,4:1", -5);
+        dueRing("0,0:1;4,0:1;4,4:1;2,1:1;0,4:1", 0);
+        dueRing("0,0:1;4,0:1;4,4:1;2,0:1;0,4:1", -5);
+        dueRing("0,0:1;4,0:1;4,4:1;2,-1:1;0,4:1", -5);
         // the same from the right, the upper, the left side
-        dueBit("4,0:1;4,4:1;0,4:1;3,2:1;0,0:1", 0);
-        dueBit("4,0:1;4,4:1;0,4:1;4,2:1;0,0:1", -5);
-        dueBit("4,4:1;0,4:1;0,0:1;2,3:1;4,0:1", 0);
-        dueBit("4,4:1;0,4:1;0,0:1;2,4:1;4,0:1", -5);
-        dueBit("0,4:1;0,0:1;4,0:1;1,2:1;4,4:1", 0);
-        dueBit("0,4:1;0,0:1;4,0:1;0,2:1;4,4:1", -5);
+        dueRing("4,0:1;4,4:1;0,4:1;3,2:1;0,0:1", 0);
+        dueRing("4,0:1;4,4:1;0,4:1;4,2:1;0,0:1", -5);
+        dueRing("4,4:1;0,4:1;0,0:1;2,3:1;4,0:1", 0);
+        dueRing("4,4:1;0,4:1;0,0:1;2,4:1;4,0:1", -5);
+        dueRing("0,4:1;0,0:1;4,0:1;1,2:1;4,4:1", 0);
+        dueRing("0,4:1;0,0:1;4,0:1;0,2:1;4,4:1", -5);
         // a corner on a corner, and one beside it
-        dueBit("0,0:1;4,0:1;2,2:1;4,4:1;0,4:1;2,2:1", -5);
-        dueBit("0,0:1;4,0:1;2,2:1;4,4:1;0,4:1;1,2:1", 0);
+        dueRing("0,0:1;4,0:1;2,2:1;4,4:1;0,4:1;2,2:1", -5);
+        dueRing("0,0:1;4,0:1;2,2:1;4,4:1;0,4:1;1,2:1", 0);
         // crossed within both
-        dueBit("0,0:1;4,4:1;4,0:1;0,3:1", -5);
-        dueBit("0,0:1;5,0:1;0,1:1;5,1:1", -5);
+        dueRing("0,0:1;4,4:1;4,0:1;0,3:1", -5);
+        dueRing("0,0:1;5,0:1;0,1:1;5,1:1", -5);
+        // crossed aslant, and nearly
+        dueRing("0,0:1;3,1:1;1,3:1;0,8:1;2,2:1;-5,9:1", -5);
+        dueRing("0,0:1;8,6:1;1,5:1;5,2:1", -5);
+        dueRing("0,0:1;8,6:1;1,5:1;5,4:1", 0);
+        dueRing("0,0:1;7,2:1;-4,5:1;4,2:1;-4,3:1", 0);
+        dueRing("0,0:1;7,2:1;-4,5:1;4,1:1;-4,3:1", -5);
+        dueRing("0,0:1;6,3:1;-4,5:1;4,2:1;-4,3:1", -5);
         // on one line: apart, with a point, with a piece in common
-        dueBit("0,0:1;6,0:1;6,2:1;4,2:1;4,1:1;2,1:1;2,2:1;0,2:1", 0);
-        dueBit("0,0:1;6,0:1;6,2:1;3,2:1;4,1:1;2,1:1;3,2:1;0,2:1", -5);
-        dueBit("0,0:1;6,0:1;6,2:1;2,2:1;4,1:1;2,1:1;4,2:1;0,2:1", -5);
+        dueRing("0,0:1;6,0:1;6,2:1;4,2:1;4,1:1;2,1:1;2,2:1;0,2:1", 0);
+        dueRing("0,0:1;6,0:1;6,2:1;3,2:1;4,1:1;2,1:1;3,2:1;0,2:1", -5);
+        dueRing("0,0:1;6,0:1;6,2:1;2,2:1;4,1:1;2,1:1;4,2:1;0,2:1", -5);
     }
 
     private static void neighboursInCommon() {
         CHECK.of("1: RING: but neighbours their CORNER");
         // straight on is a corner, straight back is none
-        dueBit("0,0:1;2,0:1;4,0:1;4,4:1", 0);
-        dueBit("0,0:1;4,0:1;2,0:1;2,4:1", -5);
-        dueBit("0,0:1;4,0:1;4,4:1;4,2:1;0,2:1", -5);
-        dueBit("0,0:1;4,0:1;4,4:1;0,4:1;0,-2:1", -5);
-        dueBit("0,2:1;0,-2:1;4,-2:1;4,2:1;0,2:1;0,1:1", -5);
-        dueBit("0,0:1;4,4:1;2,2:1;0,4:1", -5);
+        dueRing("0,0:1;2,0:1;4,0:1;4,4:1", 0);
+        dueRing("0,0:1;4,0:1;2,0:1;2,4:1", -5);
+        dueRing("0,0:1;4,0:1;4,4:1;4,2:1;0,2:1", -5);
+        dueRing("0,0:1;4,0:1;4,4:1;0,4:1;0,-2:1", -5);
+        dueRing("0,2:1;0,-2:1;4,-2:1;4,2:1;0,2:1;0,1:1", -5);
+        dueRing("0,0:1;4,4:1;2,2:1;0,4:1", -5);
         // nearly back, by as little as can be
-        dueBit("0,0:1;20,0:1;0,1:1", 0);
-        dueBit("0,0:1;20,19:1;19,18:1", -5);
-        dueBit("0,0:1;19,18:1;20,19:1", 0);
+        dueRing("0,0:1;20,0:1;0,1:1", 0);
+        dueRing("0,0:1;20,19:1;19,18:1", -5);
+        dueRing("0,0:1;19,18:1;20,19:1", 0);
     }
 
     private static void counterclockwise() {
         CHECK.of("1: it goes round counterclockwise (x to the right, y up)");
-        dueBit("0,0:1;1,0:1;0,1:1", 0);
-        dueBit("0,0:1;0,1:1;1,0:1", -5);
-        dueBit("0,0:1;2,0:1;2,2:1;0,2:1", 0);
-        dueBit("0,0:1;0,2:1;2,2:1;2,0:1", -5);
+        dueRing("0,0:1;1,0:1;0,1:1", 0);
+        dueRing("0,0:1;0,1:1;1,0:1", -5);
+        dueRing("0,0:1;2,0:1;2,2:1;0,2:1", 0);
+        dueRing("0,0:1;0,2:1;2,2:1;2,0:1", -5);
         // most of its turns go the other way, the ring does not
-        dueBit("0,0:1;9,0:1;9,9:1;8,2:1;4,1:1;2,2:1;1,9:1;0,9:1", 0);
-        dueBit("0,9:1;1,9:1;2,2:1;4,1:1;8,2:1;9,9:1;9,0:1;0,0:1", -5);
-        dueBit("0,0:1;1,0:1;2,0:1", -5);
-        dueBit("0,0:1;2,0:1;1,0:1", -5);
+        dueRing("0,0:1;9,0:1;9,9:1;8,2:1;4,1:1;2,2:1;1,9:1;0,9:1", 0);
+        dueRing("0,9:1;1,9:1;2,2:1;4,1:1;8,2:1;9,9:1;9,0:1;0,0:1", -5);
+        dueRing("0,0:1;1,0:1;2,0:1", -5);
+        dueRing("0,0:1;2,0:1;1,0:1", -5);
     }
 
     private static void dueCells(String text, int cells) {
-        FrescoWall w = new FrescoWall();
-        CHECK.due("bit of " + text, Check.bit(w, text, 5, 0, 0), 0);
-        CHECK.due("cells of " + text, w.about(0, 2), cells);
+        for (String same : asWell(text)) {
+            FrescoWall w = new FrescoWall();
+            CHECK.due("bit of " + same, Check.bit(w, same, 5, 0, 0), 0);
+            CHECK.due("cells of " + same, w.about(0, 2), cells);
+        }
     }
 
     private static void middlesWithin() {
@@ -421,6 +465,10 @@ public final class BoundBitsTest {
         dueCells("0,0:1;2,0:1;0,2:1;-2,0:1", 2);
         dueCells("1,0:1;2,1:1;1,2:1;0,1:1", 0);
         dueCells("2,0:1;4,2:1;2,4:1;0,2:1", 4);
+        // an upper and a lower end of its own each way
+        dueCells("1,0:1;5,1:1;4,5:1;0,4:1", 17);
+        // the middle of (0, 1) is on an edge
+        dueCells("0,3:1;1,0:1;4,2:1", 5);
         FrescoWall w = new FrescoWall();
         Check.bit(w, TRIANGLE, 5, 0, 0);
         w.put(0, 0, 0, 0);
@@ -676,6 +724,32 @@ public final class BoundBitsTest {
             CHECK.due("beside", v.overlap(0, 1, t, 0, 40), 0);
             CHECK.due("beside", v.overlap(0, 1, t, 0, -40), 0);
         }
+    }
+
+    private static void overlapFarAway() {
+        CHECK.of("1: OVERLAP: CELLS that they have in common; Promise 6: x, y -500 .. 500");
+        String all = "-20,-20:1;20,-20:2;20,20:3;-20,20:4";
+        for (int from = -500; from <= 500; from += 250) {
+            FrescoWall w = new FrescoWall();
+            Check.bit(w, all, 5, 0, 0);
+            Check.bit(w, all, 5, 0, 0);
+            for (int far = from; far < from + 250 && far <= 500; far++) {
+                int due = 40 * Math.max(0, 40 - Math.abs(far));
+                CHECK.due("x " + far, w.overlap(0, 1, 0, far, 0), due);
+                CHECK.due("y " + far, w.overlap(0, 1, 0, 0, far), due);
+            }
+        }
+    }
+
+    private static void fiveHundredAndTwelveCalls() {
+        CHECK.of("An object is used for at most 512 calls after it has been made");
+        FrescoWall w = new FrescoWall();
+        int made = Check.feed(w, TRIANGLE) / 8 + 1;
+        CHECK.due("bit", w.bit(5, 0, 0), 0);
+        for (int call = made + 2; call < 512; call++) {
+            CHECK.due("call " + call, w.word(0, call & 3, call, -call % 400), call <= 500 ? 1 : -2);
+        }
+        CHECK.due("the last call", w.placed(0, 1), 500);
     }
 
     private static void tolerances() {

@@ -1,3 +1,7 @@
+import java.util.ArrayList;
+import java.util.Comparator;
+import java.util.List;
+
 /** Part 2 of the document and promises 8 to 13, sentence by sentence: just inside each bound and just outside it. */
 public final class BoundFitsTest {
     private static final Check CHECK = new Check("BoundFitsTest");
@@ -28,8 +32,13 @@ public final class BoundFitsTest {
         bestBothWays();
         rivalOfA();
         rivalOfB();
+        rivalNought();
         rivalOfSeveral();
         rivalRefused();
+        scoresOfAllEdges();
+        fitsOfAllEdges();
+        rivalsOfAllEdges();
+        edgesThatThereAre();
         CHECK.end();
     }
 
@@ -413,6 +422,21 @@ public final class BoundFitsTest {
         CHECK.due("the first other one of three", w.rival(0, 0, 1, 0), 40);
     }
 
+    private static void rivalNought() {
+        CHECK.of("Promise 13: 10 times the other BIT, and its EDGE (0, BIT 0 and EDGE 0, too); -5: it is BEST BOTH WAYS");
+        FrescoWall w = rectangles("1555", "2666", "3777");
+        w.likeness(2, 3, 3);
+        CHECK.due("best", w.rival(1, 0, 2, 0), -5);
+        w.likeness(1, 3, 3);
+        CHECK.due("b's is EDGE 0 of BIT 0", w.rival(1, 0, 2, 0), 2000);
+        CHECK.due("a's is EDGE 0 of BIT 0", w.rival(2, 0, 1, 0), 2000);
+        w.likeness(1, 3, 2);
+        CHECK.due("best", w.rival(1, 0, 2, 0), -5);
+        w.likeness(1, 2, 4);
+        CHECK.due("the other one's is EDGE 0 of BIT 0", w.rival(1, 0, 2, 0), 1000);
+        CHECK.due("the other one's is EDGE 0 of BIT 0", w.rival(2, 0, 1, 0), 1000);
+    }
+
     private static void rivalOfSeveral() {
         CHECK.of("2: RIVAL: the first other FIT (in order of SCORE, then by B, then by b)");
         FrescoWall w = Check.squares(3);
@@ -439,5 +463,169 @@ public final class BoundFitsTest {
         }
         CHECK.due("behind the last", w.rival(2, 0, 1, 0), -1);
         CHECK.due("behind the last", w.rival(1, 0, 2, 0), -1);
+    }
+
+    // ---- four bits of one shape, told from different corners on; their answers are told once more by plain sums
+
+    private static final int[] THICK = {5, 7, 12, 15};
+    private static final int[] STRAW = {0, 2, 1, -1};
+    private static final int[][] CORNERS = {{0, 0}, {1, 0}, {1, 2}, {0, 2}};
+
+    private static int colour(int bit, int edge) {
+        return (4 * bit + 3 * edge) % 10;
+    }
+
+    private static int like(int one, int other) {
+        return (one + other) * (one * other + 3) % 7 + (one == other ? 3 : 0);
+    }
+
+    /** Bit 0 begins with its lower edge, bit 1 with its right one, and so on. */
+    private static int side(int bit, int edge) {
+        return (bit + edge) % 4;
+    }
+
+    /** Sides are 1 and 2 long, by turns, and two of one length always fit. */
+    private static boolean fit(int a, int edge, int b, int other) {
+        return a != b && (side(a, edge) - side(b, other)) % 2 == 0;
+    }
+
+    private static int turn(int a, int edge, int b, int other) {
+        return (side(a, edge) + 2 - side(b, other) + 4) % 4;
+    }
+
+    private static int score(int a, int edge, int b, int other) {
+        int sum = 2 * like(colour(a, edge), colour(b, other)) + Math.max(0, 9 - Math.abs(THICK[a] - THICK[b]));
+        boolean line = STRAW[a] >= 0 && STRAW[b] >= 0 && STRAW[a] == (STRAW[b] + 2 * turn(a, edge, b, other)) % 4;
+        return line ? sum + 5 : sum;
+    }
+
+    private static FrescoWall fourBits() {
+        FrescoWall w = new FrescoWall();
+        for (int bit = 0; bit < 4; bit++) {
+            StringBuilder text = new StringBuilder();
+            for (int edge = 0; edge < 4; edge++) {
+                int[] corner = CORNERS[side(bit, edge)];
+                text.append(edge == 0 ? "" : ";").append(corner[0]).append(',').append(corner[1]);
+                text.append(':').append(colour(bit, edge));
+            }
+            Check.bit(w, text.toString(), THICK[bit], STRAW[bit], 0);
+        }
+        for (int one = 0; one <= 9; one++) {
+            for (int other = one; other <= 9; other++) {
+                w.likeness(one, other, like(one, other));
+            }
+        }
+        return w;
+    }
+
+    /** 10 times B, and b, of the fits of an edge in their order. */
+    private static List<Integer> order(int a, int edge) {
+        List<Integer> fits = new ArrayList<>();
+        for (int key = 0; key < 40; key++) {
+            if (key % 10 < 4 && fit(a, edge, key / 10, key % 10)) {
+                fits.add(key);
+            }
+        }
+        // the sort leaves those of one score as they are
+        fits.sort(Comparator.comparingInt(key -> -score(a, edge, key / 10, key % 10)));
+        return fits;
+    }
+
+    private static int rival(int a, int edge, int b, int other) {
+        int own = score(a, edge, b, other);
+        for (int key : order(a, edge)) {
+            if (key != 10 * b + other && score(a, edge, key / 10, key % 10) >= own) {
+                return 1000 * a + key;
+            }
+        }
+        for (int key : order(b, other)) {
+            if (key != 10 * a + edge && score(b, other, key / 10, key % 10) >= own) {
+                return 1000 * b + key;
+            }
+        }
+        return -5;
+    }
+
+    /** What is due for a pair of edges if they fit, by how the call tells that they don't. */
+    private static int dueOf(int a, int edge, int b, int other, int fitting) {
+        if (a == b) {
+            return -2;
+        }
+        return fit(a, edge, b, other) ? fitting : -3;
+    }
+
+    private static void scoresOfAllEdges() {
+        CHECK.of("2: SCORE: twice LIKENESS, and 9 less how far THICKNESS differs, and 5 (of each EDGE with each other one)");
+        FrescoWall w = fourBits();
+        FrescoWall v = fourBits();
+        for (int k = 0; k < 256; k++) {
+            int a = k >> 6;
+            int edge = k >> 4 & 3;
+            int b = k >> 2 & 3;
+            int other = k & 3;
+            String pair = "(" + a + ", " + edge + ", " + b + ", " + other + ")";
+            CHECK.due("score" + pair, w.score(a, edge, b, other), dueOf(a, edge, b, other, score(a, edge, b, other)));
+            int due = fit(a, edge, b, other) ? turn(a, edge, b, other) : BELOW;
+            CHECK.due("t of " + pair, v.turned(a, edge, b, other, 0), due);
+        }
+    }
+
+    private static void fitsOfAllEdges() {
+        CHECK.of("2: FITS of an EDGE: in order of SCORE, the greatest first, then by B, then by b (of each EDGE)");
+        FrescoWall w = fourBits();
+        for (int a = 0; a < 4; a++) {
+            for (int edge = 0; edge < 4; edge++) {
+                CHECK.due("fits(" + a + ", " + edge + ")", w.fits(a, edge), 6);
+                for (int i = 0; i < 6; i++) {
+                    CHECK.due("fit(" + a + ", " + edge + ", " + i + ")", w.fit(a, edge, i), order(a, edge).get(i));
+                }
+            }
+        }
+    }
+
+    private static void rivalsOfAllEdges() {
+        CHECK.of("2: RIVAL; Promise 13: -5: it is BEST BOTH WAYS (of each EDGE with each other one)");
+        FrescoWall w = fourBits();
+        FrescoWall v = fourBits();
+        int best = 0;
+        for (int k = 0; k < 256; k++) {
+            int a = k >> 6;
+            int edge = k >> 4 & 3;
+            int b = k >> 2 & 3;
+            int other = k & 3;
+            int due = dueOf(a, edge, b, other, rival(a, edge, b, other));
+            String pair = "(" + a + ", " + edge + ", " + b + ", " + other + ")";
+            CHECK.due("rival" + pair, w.rival(a, edge, b, other), due);
+            if (due != -2 && due != -3 && v.count(8) < 60) {
+                int join = v.join(a, edge, b, other);
+                CHECK.due("best" + pair, v.joined(join, 4), due == -5 ? 1 : 0);
+                v.undo(join);
+            }
+            best += due == -5 ? 1 : 0;
+        }
+        CHECK.due("some are best", best > 3 ? 1 : 0, 1);
+    }
+
+    private static void edgesThatThereAre() {
+        CHECK.of("1: CORNERS, 3 to 8; 2: FITS of an EDGE (of bits of few EDGES and of many)");
+        String eight = "0,0:0;1,0:0;2,0:0;3,0:0;3,1:0;2,1:0;1,1:0;0,1:0";
+        String three = "0,0:0;1,0:0;0,1:0";
+        // whichever of them came first
+        for (int first = 0; first < 2; first++) {
+            FrescoWall w = new FrescoWall();
+            Check.bit(w, first == 0 ? eight : three, 5, -1, 0);
+            Check.bit(w, first == 0 ? three : eight, 5, -1, 0);
+            for (int edge = 0; edge < 8; edge++) {
+                CHECK.due("of eight", w.fits(first, edge), 2);
+                CHECK.due("of eight", w.fit(first, edge, 0), 10 - 10 * first);
+                CHECK.due("of eight", w.fit(first, edge, 1), 12 - 10 * first);
+            }
+            for (int edge = 0; edge < 3; edge++) {
+                CHECK.due("of three", w.fits(1 - first, edge), edge == 1 ? 0 : 8);
+                CHECK.due("of three", w.fit(1 - first, edge, 7), edge == 1 ? -1 : 10 * first + 7);
+            }
+            CHECK.due("of none", w.fits(1 - first, 3), -1);
+            CHECK.due("of none", w.fits(first, 8), -1);
+        }
     }
 }

@@ -23,6 +23,7 @@ public final class BoundJoinsTest {
         firstThatOverlapOnTheWall();
         fewestJoins();
         leastOfSeveralWays();
+        waysOfJoinsThatAreThere();
         waysOfTwoGroups();
         fromTheLeastWord();
         fromTheLeastThatWasPut();
@@ -442,6 +443,27 @@ public final class BoundJoinsTest {
         dueClash(v, 1, 0, 2, 0, 3);
     }
 
+    private static void waysOfJoinsThatAreThere() {
+        CHECK.of("3: THE CLASH tells of JOINS (that are there, not those that were undone)");
+        FrescoWall w = Check.squares(6);
+        // the least ones were undone, whatever they led to
+        w.join(3, 1, 4, 3);
+        w.join(1, 1, 2, 3);
+        w.join(0, 3, 2, 1);
+        w.undo(0);
+        w.undo(1);
+        w.undo(2);
+        w.join(1, 2, 0, 0);
+        w.join(0, 1, 2, 3);
+        CHECK.due("otherwise", w.join(1, 1, 2, 2), -11);
+        dueClash(w, 1, 1, 2, 3, 4);
+        CHECK.due("otherwise", w.join(2, 2, 1, 1), -11);
+        dueClash(w, 1, 2, 1, 4, 3);
+        w.word(1, 0, 0, 0);
+        CHECK.due("otherwise", w.word(2, 0, 0, 0), -14);
+        dueClash(w, 4, 1, 2, 3, 4);
+    }
+
     private static void waysOfTwoGroups() {
         CHECK.of("3: THE CLASH tells: from A's to A, and from B to B's (2)");
         FrescoWall w = row(3);
@@ -603,6 +625,20 @@ public final class BoundJoinsTest {
         CHECK.due("best", w.joined(0, 4), 1);
         w.likeness(2, 3, 5);
         CHECK.due("as good a one of the other", w.joined(0, 4), 0);
+        // as good a one is EDGE 0 of BIT 0, of either
+        for (int colour = 2; colour <= 3; colour++) {
+            FrescoWall v = new FrescoWall();
+            Check.bit(v, Check.box(2, 1, "1555"), 5, -1, 0);
+            Check.bit(v, Check.box(2, 1, "2666"), 5, -1, 0);
+            Check.bit(v, Check.box(2, 3, "3777"), 5, -1, 0);
+            v.likeness(2, 3, 5);
+            v.join(1, 0, 2, 0);
+            CHECK.due("best", v.joined(0, 4), 1);
+            v.likeness(1, colour, 5);
+            CHECK.due("as good a one", v.joined(0, 4), 0);
+            v.likeness(1, colour, 4);
+            CHECK.due("best", v.joined(0, 4), 1);
+        }
     }
 
     private static void groupNone() {

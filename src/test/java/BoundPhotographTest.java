@@ -19,11 +19,14 @@ public final class BoundPhotographTest {
         inPlaceOfOne();
         upperRowFirst();
         atMostDoubtAway();
+        aroundTheGreatest();
         unknownAgreesWithNone();
         onItOrNot();
         turnedSpots();
         agreeRefused();
         everySpotOnIt();
+        oneToFiveSpots();
+        eachTurnOnIt();
         mostThatAgree();
         leastTurn();
         leastY();
@@ -35,6 +38,7 @@ public final class BoundPhotographTest {
         aBitOfNone();
         leastIsHere();
         hangTogether();
+        oneHangsAlone();
         hangByTheThird();
         overlapByTolerance();
         worthOfAllPairs();
@@ -207,6 +211,17 @@ public final class BoundPhotographTest {
         Check.photograph(w, "1", 40, 40, 0);
         CHECK.due("elsewhere", w.agree(0, 0, 40, 40), 1);
         CHECK.due("no longer there", w.agree(0, 0, 10, 20), 0);
+        // of the greatest one by the greatest doubt nothing is left
+        String row = "1".repeat(13);
+        Check.photograph(w, row + ("/" + row).repeat(15), 40, 40, 3);
+        int[][] rim = {{37, 37}, {55, 37}, {37, 58}, {55, 58}, {46, 37}, {46, 58}, {37, 48}, {55, 48}, {46, 48}};
+        for (int[] cell : rim) {
+            CHECK.due("there", w.agree(0, 0, cell[0], cell[1]), 1);
+        }
+        Check.photograph(w, "2", 40, 40, 3);
+        for (int[] cell : rim) {
+            CHECK.due("left", w.agree(0, 0, cell[0], cell[1]), 0);
+        }
     }
 
     private static void upperRowFirst() {
@@ -249,6 +264,26 @@ public final class BoundPhotographTest {
             CHECK.due("too far above, " + x, w.agree(0, 0, x, 7), 0);
             CHECK.due("below, " + x, w.agree(0, 0, x, -3), near ? 1 : 0);
             CHECK.due("too far below, " + x, w.agree(0, 0, x, -4), 0);
+        }
+    }
+
+    private static void aroundTheGreatest() {
+        CHECK.of("5: 1 .. 16 each way; at most DOUBT away: as far out as there is, and beyond");
+        int[] ways = {-25, -6, -5, -4, -3, -2, 0, 7, 13, 15, 16, 17, 18, 19, 20, 21, 22, 23, 25, 44};
+        for (int wide = 14; wide <= 16; wide += 2) {
+            int high = 30 - wide;
+            String row = "1".repeat(wide);
+            for (int x : ways) {
+                FrescoWall w = new FrescoWall();
+                Check.bit(w, Check.box(1, 1, "0000") + "|0,0=1", 5, -1, 0);
+                CHECK.due("photograph", Check.photograph(w, row + ("/" + row).repeat(high - 1), 0, 0, 3), 1);
+                for (int y : ways) {
+                    for (int times : new int[] {1, 11}) {
+                        boolean near = x * times >= -3 && x * times <= wide + 2 && y * times >= -3 && y * times <= high + 2;
+                        CHECK.due("at " + x * times + ", " + y * times, w.agree(0, 0, x * times, y * times), near ? 1 : 0);
+                    }
+                }
+            }
         }
     }
 
@@ -355,6 +390,67 @@ public final class BoundPhotographTest {
         dueBest(w, 0, 1, 2, 5, 1, 0);
         Check.photograph(w, "..2..", 0, 0, 0);
         dueBest(w, 0, 0, 0, 0, 0, 1);
+    }
+
+    private static void oneToFiveSpots() {
+        CHECK.of("5: BEST PLACING of a BIT with SPOTS (1 to 5); every SPOT lies on the PHOTOGRAPH, whichever is the outermost");
+        // five SPOTS in a hook; the first ones of them are other bits', in any order
+        int[][] hook = {{0, 0}, {1, 0}, {2, 0}, {2, 1}, {2, 2}};
+        int[][] orders = {{0, 1, 2, 3, 4}, {4, 3, 2, 1, 0}, {2, 0, 4, 1, 3}, {3, 4, 0, 2, 1}, {1, 2, 3, 4, 0}};
+        for (int[] order : orders) {
+            FrescoWall w = new FrescoWall();
+            StringBuilder text = new StringBuilder("0,0:0;3,0:0;3,3:0;2,3:0;2,1:0;0,1:0");
+            for (int k = 4; k >= 0; k--) {
+                text.append('|').append(hook[order[k]][0]).append(',').append(hook[order[k]][1]).append("=7");
+            }
+            // the one of five goes first, so that those of fewer come behind more
+            CHECK.due("five", Check.bit(w, text.toString(), 5, -1, 0), 0);
+            for (int n = 1; n <= 4; n++) {
+                StringBuilder fewer = new StringBuilder("0,0:0;3,0:0;3,3:0;2,3:0;2,1:0;0,1:0");
+                for (int k = 0; k < n; k++) {
+                    fewer.append('|').append(hook[order[k]][0]).append(',').append(hook[order[k]][1]).append("=7");
+                }
+                CHECK.due("fewer", Check.bit(w, fewer.toString(), 5, -1, 0), n);
+            }
+            Check.photograph(w, "...../...../...../.....", 100, 200, 0);
+            for (int bit = 0; bit <= 4; bit++) {
+                dueAllOnIt(w, hook, order, bit == 0 ? 5 : bit, bit);
+            }
+        }
+    }
+
+    /** None agrees, so the first of all placings is the best one and the others are RIVALS. */
+    private static void dueAllOnIt(FrescoWall w, int[][] hook, int[] order, int n, int bit) {
+        int lowX = 9;
+        int lowY = 9;
+        int highX = -9;
+        int highY = -9;
+        for (int k = 0; k < n; k++) {
+            lowX = Math.min(lowX, hook[order[k]][0]);
+            lowY = Math.min(lowY, hook[order[k]][1]);
+            highX = Math.max(highX, hook[order[k]][0]);
+            highY = Math.max(highY, hook[order[k]][1]);
+        }
+        int wide = highX - lowX;
+        int high = highY - lowY;
+        dueBest(w, bit, 0, 0, 100 - lowX, 200 - lowY, 2 * (5 - wide) * (4 - high) + 2 * (5 - high) * (4 - wide) - 1);
+    }
+
+    private static void eachTurnOnIt() {
+        CHECK.of("5: BEST PLACING: every SPOT lies on the PHOTOGRAPH (in each of its turns)");
+        // two SPOTS one above the other, far from the corner, the upper one first
+        String[] shows = {"1/2", "21", "2/1", "12"};
+        int[][] at = {{10 - 3, 20 - 1}, {10 + 3, 20 - 3}, {10 + 4, 20 + 3}, {10 - 1, 20 + 4}};
+        for (String spots : new String[] {"|3,2=1|3,1=2", "|3,1=2|3,2=1"}) {
+            for (int n = 0; n < 4; n++) {
+                FrescoWall w = new FrescoWall();
+                Check.bit(w, Check.box(5, 4, "0000") + spots, 5, -1, 0);
+                // turned by a quarter the upper one is at the left
+                int t = new int[] {0, 3, 2, 1}[n];
+                Check.photograph(w, shows[n], 10, 20, 0);
+                dueBest(w, 0, 2, t, at[t][0], at[t][1], 0);
+            }
+        }
     }
 
     private static void mostThatAgree() {
@@ -525,6 +621,22 @@ public final class BoundPhotographTest {
         CHECK.due("another PLASTER", w.arrange(1 | 16), -5);
     }
 
+    private static void oneHangsAlone() {
+        CHECK.of("6: all hang together by FITS; Promise 30: -5: there is none (one of three hangs on none)");
+        for (int alone = 0; alone < 3; alone++) {
+            FrescoWall w = new FrescoWall();
+            for (int k = 0; k < 3; k++) {
+                Check.bit(w, k == alone ? "0,0:0;1,0:0;0,7:0" : Check.box(3, 4, "0000"), 5, -1, 0);
+            }
+            CHECK.due("bit " + alone + " is alone", w.arrange(7), -5);
+            CHECK.due("the two others", w.arrange(7 & ~(1 << alone)), 27);
+            CHECK.due("bit " + alone + " is alone still", w.arrange(7), -5);
+            for (int k = 0; k < 3; k++) {
+                CHECK.due("as the two were told", w.arranged(k, 0), k == alone ? BELOW : 0);
+            }
+        }
+    }
+
     private static void hangByTheThird() {
         CHECK.of("6: each other one such that all hang together by FITS (by way of any)");
         for (int middle = 0; middle < 3; middle++) {
@@ -578,6 +690,20 @@ public final class BoundPhotographTest {
         CHECK.due("two pairs at once", w.arrange(3), 25 + 25);
         dueArranged(w, 1, 0, 1, 1);
         CHECK.due("the third one's side is as long as no two of them", w.arrange(5), 27);
+        // the same two pairs, whichever of the EDGES are the first ones
+        String[] corner = {"0,0:0", "2,0:0", "2,1:1", "1,1:2", "1,2:0", "0,2:0"};
+        String[] square = {"0,0:1", "1,0:0", "1,1:0", "0,1:2"};
+        for (int first = 0; first < 6; first++) {
+            for (int other = 0; other < 4; other++) {
+                FrescoWall v = new FrescoWall();
+                Check.bit(v, begunAt(corner, first), 5, -1, 0);
+                Check.bit(v, begunAt(square, other), 7, -1, 0);
+                Check.bit(v, Check.box(5, 7, "0000"), 5, -1, 0);
+                CHECK.due("two pairs at once, begun at " + first + ", " + other, v.arrange(3), 50);
+                dueArranged(v, 1, 0, 1, 1);
+                CHECK.due("the third one hangs on none", v.arrange(7), -5);
+            }
+        }
         FrescoWall v = Check.squares(3);
         CHECK.due("a row or a hook", v.arrange(7), 54);
         // two squares side by side in a slot: each at its floor and a wall, and at the other one
@@ -588,6 +714,14 @@ public final class BoundPhotographTest {
         CHECK.due("five pairs", u.arrange(7), 135);
         dueArranged(u, 1, 0, 1, 1);
         dueArranged(u, 2, 0, 2, 1);
+    }
+
+    private static String begunAt(String[] corners, int first) {
+        StringBuilder text = new StringBuilder();
+        for (int k = 0; k < corners.length; k++) {
+            text.append(k == 0 ? "" : ";").append(corners[(first + k) % corners.length]);
+        }
+        return text.toString();
     }
 
     private static void mostWorth() {

@@ -587,14 +587,17 @@ public final class BoundQuestionTest {
         CHECK.of("Promise 33: for which the latest QUESTION that was read was so");
         FrescoWall w = thick(4);
         so(w, "t=2|t=3", 1, 2);
-        for (String text : new String[] {"", "t=1|", "t=1&t=4|x", "(t=4", "t=4)", "!t=4 "}) {
+        for (String text : new String[] {"", "t=1|", "t=1&t=4|x", "(t=4", "t=4)", "!t=4 ", "t=1&!", "(!(!"}) {
             CHECK.due("a FAULT", Check.ask(w, text) <= -10 ? 1 : 0, 1);
             CHECK.due("is not read", w.asked(0), 1);
             CHECK.due("is not read", w.asked(1), 2);
             CHECK.due("is not read", w.asked(2), -1);
         }
         so(w, "t=4", 3);
+        CHECK.due("a FAULT", Check.ask(w, "t=1|t=2&!"), -19);
         so(w, "t=9");
+        CHECK.due("a FAULT", Check.ask(w, "t=1|!(t=2|!("), -22);
+        so(w, "(t=1|(t=3))&t>2", 2);
     }
 
     private static void asItWasAsked() {

@@ -30,6 +30,7 @@ public final class BoundWallTest {
         placedNone();
         placedBy();
         atTheLeast();
+        atTheOutermostCells();
         atNone();
         proofOfAWord();
         proofByBestJoins();
@@ -37,6 +38,7 @@ public final class BoundWallTest {
         fewestJoins();
         leastBitOfAsFew();
         leastOfSeveralWays();
+        proofByNoOtherJoins();
         proofRefused();
         reasonNone();
         CHECK.end();
@@ -572,6 +574,47 @@ public final class BoundWallTest {
         CHECK.due("off", w.at(1, 0), 3);
     }
 
+    private static void atTheOutermostCells() {
+        CHECK.of("Promise 24: Which BIT has a CELL of THE WALL; 1: x, y -20 .. 20; TURNED, CELLS by their middles");
+        for (int t = 0; t < 4; t++) {
+            FrescoWall w = new FrescoWall();
+            Check.bit(w, "-20,-20:1;20,-20:2;20,20:3;-20,20:4", 5, 0, 0);
+            w.put(0, t, 100, -100);
+            for (int far = -22; far <= 21; far++) {
+                boolean on = far >= -20 && far <= 19;
+                CHECK.due("left", w.at(80, far - 100), on ? 0 : -1);
+                CHECK.due("beside the left", w.at(79, far - 100), -1);
+                CHECK.due("right", w.at(119, far - 100), on ? 0 : -1);
+                CHECK.due("beside the right", w.at(120, far - 100), -1);
+                CHECK.due("lowest", w.at(100 + far, -120), on ? 0 : -1);
+                CHECK.due("below", w.at(100 + far, -121), -1);
+                CHECK.due("uppermost", w.at(100 + far, -81), on ? 0 : -1);
+                CHECK.due("above", w.at(100 + far, -80), -1);
+            }
+        }
+        for (int t = 0; t < 4; t++) {
+            // the ones far out alone
+            FrescoWall w = new FrescoWall();
+            Check.bit(w, "-20,-20:1;-18,-20:2;-18,-19:3;-20,-19:4", 5, 0, 0);
+            Check.bit(w, "18,19:1;20,19:2;20,20:3;18,20:4", 5, 0, 0);
+            w.put(0, t, 0, 0);
+            w.put(1, t, 0, 0);
+            int[][] first = {{-20, -20, -19, -20}, {19, -20, 19, -19}, {19, 19, 18, 19}, {-20, 19, -20, 18}};
+            CHECK.due("the first", w.at(first[t][0], first[t][1]), 0);
+            CHECK.due("the first", w.at(first[t][2], first[t][3]), 0);
+            CHECK.due("the second", w.at(-1 - first[t][0], -1 - first[t][1]), 1);
+            CHECK.due("the second", w.at(-1 - first[t][2], -1 - first[t][3]), 1);
+            int found = 0;
+            for (int far = -21; far <= 20; far++) {
+                found += w.at(far, first[t][1]) == 0 ? 1 : 0;
+                found += w.at(first[t][0], far) == 0 ? 1 : 0;
+                found += w.at(far, -1 - first[t][1]) == 1 ? 1 : 0;
+                found += w.at(-1 - first[t][0], far) == 1 ? 1 : 0;
+            }
+            CHECK.due("no other ones", found, 6);
+        }
+    }
+
     private static void atNone() {
         CHECK.of("Promise 24: NONE: none");
         FrescoWall w = row(2);
@@ -731,6 +774,52 @@ public final class BoundWallTest {
         u.word(3, 0, 0, 1);
         // from 3 to 1 by joins 1 0 or by 2 3
         dueProof(u, 1, 1, 0);
+    }
+
+    private static void proofByNoOtherJoins() {
+        CHECK.of("4: PROOF: such JOINS (none that were undone, none that are not best)");
+        FrescoWall w = new FrescoWall();
+        for (String colours : new String[] {"9149", "9921", "2993", "4399"}) {
+            Check.bit(w, Check.box(1, 1, colours), 5, -1, 0);
+        }
+        // 0 is a stage of the way from 1 to 3
+        CHECK.due("one that is not best", w.join(2, 3, 3, 0), 0);
+        CHECK.due("one that is not best", w.join(1, 1, 2, 1), 1);
+        w.undo(1);
+        w.undo(0);
+        CHECK.due("best", w.join(0, 1, 1, 3), 2);
+        CHECK.due("best", w.join(3, 0, 0, 2), 3);
+        w.word(1, 0, 0, 0);
+        dueProof(w, 3, 2, 3);
+        w.unsay(1);
+        w.word(3, 0, 0, 0);
+        dueProof(w, 1, 3, 2);
+        dueProof(w, 0, 3);
+        FrescoWall v = new FrescoWall();
+        for (String colours : new String[] {"9149", "9921", "2993", "4399"}) {
+            Check.bit(v, Check.box(1, 1, colours), 5, -1, 0);
+        }
+        // join 0 is there and leads to 2, but by no best FIT
+        CHECK.due("one that is not best", v.join(1, 0, 2, 1), 0);
+        CHECK.due("best", v.join(0, 1, 1, 3), 1);
+        CHECK.due("best", v.join(3, 0, 0, 2), 2);
+        v.word(1, 0, 0, 0);
+        dueProof(v, 3, 1, 2);
+        CHECK.due("not by that one", v.proof(2), -3);
+        // two pairs of EDGES lie on one another at once, the first one joined is not best
+        FrescoWall u = new FrescoWall();
+        Check.bit(u, "0,0:0;2,0:0;2,1:1;1,1:2;1,2:0;0,2:0", 5, -1, 0);
+        Check.bit(u, Check.box(1, 1, "1992"), 5, -1, 0);
+        Check.bit(u, Check.box(1, 1, "1333"), 5, -1, 0);
+        CHECK.due("one that is not best", u.join(0, 2, 1, 0), 0);
+        CHECK.due("best", u.join(0, 3, 1, 3), 1);
+        CHECK.due("one that is not best", u.joined(0, 4), 0);
+        CHECK.due("best", u.joined(1, 4), 1);
+        u.word(0, 0, 0, 0);
+        dueProof(u, 1, 1);
+        u.unsay(0);
+        u.word(1, 0, 0, 0);
+        dueProof(u, 0, 1);
     }
 
     private static void proofRefused() {

@@ -16,6 +16,7 @@ public final class RefusalsTest {
 
     public static void main(String[] args) {
         theScenes();
+        theFirstOneTold();
         feed();
         bit();
         aboutAndCorner();
@@ -393,6 +394,55 @@ public final class RefusalsTest {
         CHECK.due(text, reading.applyAsInt(w), due);
         CHECK.due(text + ": bytes of THE TAPE", w.count(7), 0);
         same(text, made, scene, true);
+    }
+
+    private static void theFirstOneTold() {
+        CHECK.of("9: REFUSALS, of several the first one told: NONE; BAD; STATE; FULL");
+        FrescoWall rich = rich();
+        CHECK.due("overlap: NONE, BAD", rich.overlap(0, 8, 4, 501, 501), NONE);
+        CHECK.due("likeness: NONE, BAD", rich.likeness(10, 0, 10), NONE);
+        CHECK.due("score: NONE, BAD", rich.score(0, 4, 0, 0), NONE);
+        CHECK.due("score: BAD, STATE", rich.score(0, 0, 0, 0), BAD);
+        CHECK.due("rival: NONE, BAD", rich.rival(0, 0, 0, 4), NONE);
+        CHECK.due("rival: BAD, STATE", rich.rival(0, 0, 0, 2), BAD);
+        CHECK.due("join: NONE, BAD", rich.join(0, 4, 0, 0), NONE);
+        CHECK.due("join: BAD, STATE", rich.join(0, 3, 0, 3), BAD);
+        CHECK.due("join: STATE, a CLASH", rich.join(0, 3, 1, 1), STATE);
+        CHECK.due("word: NONE, BAD", rich.word(8, 4, 501, 501), NONE);
+        CHECK.due("word: BAD, a CLASH", rich.word(1, 0, 7, 501), BAD);
+        CHECK.due("put: NONE, BAD", rich.put(8, 4, 501, 501), NONE);
+        CHECK.due("put: BAD, STATE", rich.put(0, 4, 0, 0), BAD);
+        CHECK.due("put: STATE, a CLASH", rich.put(0, 0, 10, -5), STATE);
+        CHECK.due("agree: NONE, BAD", rich.agree(8, 4, 501, 501), NONE);
+        CHECK.due("enter: NONE, BAD", rich.enter(8, 0, 1000), NONE);
+        CHECK.due("enter: NONE, BAD", rich.enter(0, 10, 1000), NONE);
+        CHECK.due("box: NONE, BAD", rich.box(8, 1000, 0), NONE);
+        CHECK.due("box: NONE, BAD", rich.box(0, 1000, 5), NONE);
+        CHECK.due("box: NONE, BAD", rich.box(0, -1, -1), NONE);
+        CHECK.due("skill: NONE, BAD", rich.skill(6, 0, 10), NONE);
+        CHECK.due("skill: NONE, BAD", rich.skill(0, 10, 10), NONE);
+        CHECK.due("best: -100000, -100001", rich.best(2, 5), BELOW);
+        CHECK.due("photograph: BAD, a FAULT", rich.photograph(0, 0, 4), BAD);
+        CHECK.due("bit: BAD, a FAULT", rich.bit(0, 0, 0), BAD);
+        FrescoWall bare = bare();
+        CHECK.due("agree: NONE, STATE", bare.agree(3, 0, 0, 0), NONE);
+        CHECK.due("agree: NONE, BAD, STATE", bare.agree(3, 0, 501, 0), NONE);
+        CHECK.due("agree: BAD, STATE", bare.agree(0, 0, 501, 0), BAD);
+        CHECK.due("best: -100000, -100001", bare.best(3, 0), BELOW);
+        CHECK.due("feed: BAD, FULL", fullTape().feed(0, 9), BAD);
+        CHECK.due("bit: BAD, FULL", thirtyBits().bit(5, 0, 10), BAD);
+        FrescoWall bits = thirtyBits();
+        Check.feed(bits, "x");
+        CHECK.due("bit: FULL, a FAULT", bits.bit(5, 0, 0), FULL);
+        FrescoWall joins = sixtyJoins();
+        CHECK.due("join: NONE, FULL", joins.join(0, 0, 4, 0), NONE);
+        CHECK.due("join: BAD, FULL", joins.join(0, 0, 0, 1), BAD);
+        CHECK.due("join: STATE, FULL", joins.join(0, 1, 2, 0), STATE);
+        CHECK.due("join: FULL, a CLASH", joins.join(0, 0, 1, 0), FULL);
+        FrescoWall entries = hundredEntries();
+        CHECK.due("enter: NONE, FULL", entries.enter(3, 0, 0), NONE);
+        CHECK.due("enter: NONE, BAD, FULL", entries.enter(0, 10, 1000), NONE);
+        CHECK.due("enter: BAD, FULL", entries.enter(0, 0, 1000), BAD);
     }
 
     // ---- the calls
