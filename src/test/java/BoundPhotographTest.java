@@ -28,6 +28,7 @@ public final class BoundPhotographTest {
         oneToFiveSpots();
         eachTurnOnIt();
         mostThatAgree();
+        asFarAsThePhotograph();
         leastTurn();
         leastY();
         leastX();
@@ -463,6 +464,18 @@ public final class BoundPhotographTest {
         dueBest(w, 0, 3, 2, 15, 22, 0);
         Check.photograph(w, "...3/...2/...1", -5, -6, 0);
         dueBest(w, 0, 3, 1, -1, -6, 0);
+    }
+
+    private static void asFarAsThePhotograph() {
+        CHECK.of("5: BEST PLACING: of all in which every SPOT lies on the PHOTOGRAPH (however far it is)");
+        for (int sign = -1; sign <= 1; sign += 2) {
+            FrescoWall w = new FrescoWall();
+            Check.bit(w, "-20,-20:0;20,-20:0;20,20:0;-20,20:0|-20,-20=1|-20,-19=2", 5, -1, 0);
+            Check.photograph(w, "2/1", 500 * sign, 500 * sign, 0);
+            dueBest(w, 0, 2, 0, 500 * sign + 20, 500 * sign + 20, 0);
+            Check.photograph(w, "1/2", 500 * sign, -500 * sign, 0);
+            dueBest(w, 0, 2, 2, 500 * sign - 19, -500 * sign - 18, 0);
+        }
     }
 
     private static void leastTurn() {

@@ -18,6 +18,7 @@ public final class BoundWallTest {
         unsayRefused();
         unsayWithAnother();
         unsayTheLast();
+        putAheadOfTheJoin();
         putNone();
         putBad();
         putState();
@@ -332,6 +333,37 @@ public final class BoundWallTest {
         v.unsay(0);
         CHECK.due("put elsewhere", v.put(1, 0, 0, 0), 2);
         CHECK.due("lift", v.lift(0), 2);
+        // one that was PUT ahead of the JOIN is not PUT any more
+        FrescoWall u = Check.squares(2);
+        u.put(0, 0, 0, 0);
+        u.word(1, 0, 1, 0);
+        CHECK.due("join", u.join(0, 1, 1, 3), 0);
+        CHECK.due("unsay", u.unsay(1), 1);
+        dueAt(u, 0, 0, 0, 0, 0);
+        dueAt(u, 1, 0, 1, 0, 0);
+        u.undo(0);
+        dueOff(u, 0);
+        dueAt(u, 1, 0, 1, 0, 0);
+    }
+
+    private static void putAheadOfTheJoin() {
+        CHECK.of("3: one that has no BIT with a WORD, nor one that was PUT, is off THE WALL (PUT and a WORD in one GROUP)");
+        FrescoWall w = Check.squares(2);
+        w.put(0, 0, 0, 0);
+        w.word(1, 0, 1, 0);
+        CHECK.due("join", w.join(0, 1, 1, 3), 0);
+        dueAt(w, 0, 0, 0, 0, 1);
+        CHECK.due("its GROUP has a WORD", w.lift(0), -3);
+        CHECK.due("its GROUP has a WORD", w.put(0, 0, 0, 0), -3);
+        w.undo(0);
+        dueAt(w, 0, 0, 0, 0, 0);
+        dueAt(w, 1, 0, 1, 0, 2);
+        w.join(0, 1, 1, 3);
+        // a WORD in the GROUP takes the place of what was PUT
+        CHECK.due("word", w.word(1, 0, 1, 0), 2);
+        w.undo(1);
+        dueOff(w, 0);
+        dueAt(w, 1, 0, 1, 0, 2);
     }
 
     private static void putNone() {
