@@ -22,6 +22,7 @@ public final class BoundJoinsTest {
         oneOnTheWall();
         firstThatOverlapOnTheWall();
         fewestJoins();
+        fewestAmongThree();
         leastOfSeveralWays();
         waysOfJoinsThatAreThere();
         waysOfTwoGroups();
@@ -420,6 +421,22 @@ public final class BoundJoinsTest {
         w.undo(3);
         CHECK.due("otherwise", w.join(0, 0, 3, 2), -11);
         dueClash(w, 1, 0, 3, 0, 1, 2);
+    }
+
+    /** Where each way round is odd a step may lead to a bit that is just as far away. */
+    private static void fewestAmongThree() {
+        CHECK.of("3: the fewest that lead from A to B (1), also where each leads to both others");
+        FrescoWall w = Check.threeInARound();
+        CHECK.due("joins", w.group(0, 2), 3);
+        CHECK.due("otherwise", w.join(0, 2, 1, 0), -11);
+        dueClash(w, 1, 0, 1, 2);
+        CHECK.due("otherwise", w.join(1, 0, 0, 2), -11);
+        dueClash(w, 1, 1, 0, 2);
+        CHECK.due("otherwise", w.join(0, 2, 2, 0), -11);
+        dueClash(w, 1, 0, 2, 1);
+        CHECK.due("word", w.word(1, 0, 0, 0), 3);
+        CHECK.due("another word", w.word(0, 0, 0, 0), -14);
+        dueClash(w, 4, 1, 0, 2);
     }
 
     private static void leastOfSeveralWays() {

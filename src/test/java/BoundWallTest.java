@@ -37,6 +37,7 @@ public final class BoundWallTest {
         proofByBestJoins();
         proofNow();
         fewestJoins();
+        fewestAmongThree();
         leastBitOfAsFew();
         leastOfSeveralWays();
         proofByNoOtherJoins();
@@ -773,6 +774,17 @@ public final class BoundWallTest {
         dueProof(w, 3, 2);
         dueProof(w, 1, 0);
         dueProof(w, 2);
+    }
+
+    /** Where each way round is odd a step may lead to a bit that is just as far away. */
+    private static void fewestAmongThree() {
+        CHECK.of("4: PROOF: the fewest such JOINS, also where each leads to both others");
+        FrescoWall w = Check.threeInARound();
+        CHECK.due("word", w.word(1, 0, 0, 0), 3);
+        dueProof(w, 0, 2);
+        dueProof(w, 2, 0);
+        w.undo(2);
+        dueProof(w, 0, 0, 1);
     }
 
     private static void leastBitOfAsFew() {

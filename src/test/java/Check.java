@@ -69,6 +69,18 @@ final class Check {
         return wall;
     }
 
+    /** A bit on two squares that stand side by side, all three joined: the squares by 0, 2 with 0 by 1, 0 with 1 by 2. */
+    static FrescoWall threeInARound() {
+        FrescoWall wall = new FrescoWall();
+        bit(wall, "0,0:1;1,0:2;2,0:4;2,1:5;0,1:6", 5, -1, 0);
+        bit(wall, box(1, 1, "7318"), 5, -1, 0);
+        bit(wall, box(1, 1, "9023"), 5, -1, 0);
+        wall.join(1, 1, 2, 3);
+        wall.join(2, 2, 0, 1);
+        wall.join(0, 0, 1, 2);
+        return wall;
+    }
+
     static int ask(FrescoWall wall, String text) {
         feed(wall, text);
         return wall.ask();
